@@ -216,8 +216,9 @@ public final class ModelTest {
         }
     }
 
-    // A sound term of at most room tokens, leaving no more binders than are still allowed.
     private static int bindersLeft;
+
+    // A sound term of at most room tokens and bindersLeft binders.
 
     private static void grow(List<Integer> into, int room, int bound) {
         int kind = room == 1 ? 0 : pick(10);
@@ -242,10 +243,38 @@ public final class ModelTest {
 
     private static void shake(Run run) {
         for (int k = pick(12); k > 0; k--) {
-            run.step(pick(6), pick(6), pick(3) > 0);
+            run.step(pick(6), pick(6), pick(2) > 0);
         }
         for (int i = 0; i < 3; i++) {
             run.mark(i, pick(64));
+        }
+    }
+
+    // Two binders of unlike kinds around a body that uses both X: the inner set then depends
+    // on the outer one, and a wrong order of rounds shows.
+    private static void alternatingFormulas() {
+        for (int n = 0; n < 6000; n++) {
+            int outer = pick(3);
+            int inner = (outer + 1 + pick(2)) % 3;
+            int kind = pick(2);
+            List<Integer> formula = new ArrayList<>();
+            formula.add((kind == 0 ? 10 : 13) + outer);
+            formula.add((kind == 0 ? 13 : 10) + inner);
+            bindersLeft = n % 20 == 0 ? 1 : 0;
+            grow(formula, 5 + pick(6), 1 << outer | 1 << inner);
+            if (!formula.contains(16 + outer) || !formula.contains(16 + inner)) {
+                continue;
+            }
+            Run run = new Run();
+            for (int t : formula) {
+                run.token(t);
+            }
+            for (int k = 0; k < 12; k++) {
+                shake(run);
+                run.ask();
+            }
+            run.turn();
+            run.ask();
         }
     }
 
@@ -316,6 +345,7 @@ public final class ModelTest {
     public static void main(String[] args) {
         shortFormulas();
         soundFormulas();
+        alternatingFormulas();
         anyCalls();
         System.out.println(wrong == 0 ? "all answers are as due" : wrong + " answers are not as due");
         if (wrong != 0) {

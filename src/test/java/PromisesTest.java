@@ -350,26 +350,25 @@ public final class PromisesTest {
         due("set() again", x.set(), 7);
     }
 
-    // 0 and 1 step to each other, 2 to 3, 3 to 2 and 0, 4 to itself, 5 to 4.
+    // 0 and 1 step to each other, and 0 to 2, which has mark 0 and no steps. "Mark 0 is met
+    // without end" holds nowhere, but 0 and 1 stay in the inner least set if it is kept from
+    // the outer one's first round; likewise they stay out of the greatest set when turned.
     private static void innerStartsAfresh() {
         ModalJudge x = new ModalJudge();
         x.step(0, 1, true);
         x.step(1, 0, true);
-        x.step(2, 3, true);
-        x.step(3, 2, true);
-        x.step(3, 0, true);
-        x.step(4, 4, true);
-        x.step(5, 4, true);
-        x.mark(0, 0b110100);
-        // Mark 0 is met without end: a least set kept from an earlier round would be too large.
-        dueSet(x, 0b111100, 13, 11, 8, 7, 6, 0, 16, 17);
-        x.mark(0, 0b001000);
-        dueSet(x, 0b001100, 13, 11, 8, 7, 6, 0, 16, 17);
-        x.step(2, 3, false);
+        x.step(0, 2, true);
+        x.mark(0, 0b000100);
         dueSet(x, 0, 13, 11, 8, 7, 6, 0, 16, 17);
-        // On some way mark 0 holds from some state on: a greatest set kept would be too small.
-        x.mark(0, 0b010001);
-        dueSet(x, 0b110000, 10, 14, 7, 8, 16, 6, 0, 8, 17);
+        dueSet(x, 63, 10, 14, 9, 6, 7, 3, 16, 17);
+        // The same with a binder between the two, and with the inner term in front of another.
+        dueSet(x, 0, 13, 15, 11, 8, 7, 6, 0, 16, 17);
+        dueSet(x, 63, 10, 12, 14, 9, 6, 7, 3, 16, 17);
+        dueSet(x, 0b000100, 7, 13, 11, 8, 7, 6, 0, 16, 17, 0);
+        dueSet(x, 0b111011, 6, 10, 14, 9, 6, 7, 3, 16, 17, 3);
+        x.step(2, 0, true);
+        dueSet(x, 0b000111, 13, 11, 8, 7, 6, 0, 16, 17);
+        dueSet(x, 0b111000, 10, 14, 9, 6, 7, 3, 16, 17);
     }
 
     // A fixed point that needs a round for each of the six states, alone and nested.
