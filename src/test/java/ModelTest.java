@@ -278,6 +278,32 @@ public final class ModelTest {
         }
     }
 
+    // Formulas sought out for needing very many rounds, each with the steps and the marks.
+    private static void manyRounds() {
+        int[][][] cases = {
+            {{14, 15, 13, 6, 3, 9, 10, 7, 18, 7, 17, 2}, {13, 63, 1, 21, 32, 63}, {2, 9, 4}},
+            {{12, 11, 10, 8, 10, 7, 5, 6, 18, 7, 16, 17}, {19, 52, 40, 32, 17, 48}, {11, 34, 55}},
+            {{15, 14, 13, 13, 8, 7, 7, 17, 6, 18, 18, 16}, {46, 12, 40, 32, 1, 0}, {32, 3, 7}},
+            {{11, 7, 15, 13, 14, 7, 8, 16, 8, 18, 9, 17}, {58, 20, 48, 0, 8, 16}, {53, 7, 43}}};
+        for (int[][] one : cases) {
+            Run run = new Run();
+            for (int t : one[0]) {
+                run.token(t);
+            }
+            for (int s = 0; s < 6; s++) {
+                for (int t = 0; t < 6; t++) {
+                    run.step(s, t, (one[1][s] >> t & 1) == 1);
+                }
+            }
+            for (int i = 0; i < 3; i++) {
+                run.mark(i, one[2][i]);
+            }
+            run.ask();
+            run.turn();
+            run.ask();
+        }
+    }
+
     private static void soundFormulas() {
         for (int n = 0; n < 600; n++) {
             Run run = new Run();
@@ -346,6 +372,7 @@ public final class ModelTest {
         shortFormulas();
         soundFormulas();
         alternatingFormulas();
+        manyRounds();
         anyCalls();
         System.out.println(wrong == 0 ? "all answers are as due" : wrong + " answers are not as due");
         if (wrong != 0) {
